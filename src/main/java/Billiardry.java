@@ -561,7 +561,7 @@ public final class Billiardry {
         /**
          * Whether the line in the direction wide, high from the middle of a CELL meets the CELL that
          * lies right and up from it: its corners, all half a CELL from its middle, are not all on
-         * the same side of the line. All is doubled, so that it stays whole.
+         * the same side of the line. All is taken twice, so that it stays whole.
          */
         private static boolean isMet(int wide, int high, int right, int up) {
             int apart = 2 * Math.abs(wide * up - high * right);
@@ -597,9 +597,6 @@ public final class Billiardry {
     private static final class Surface {
         static final int CONES = 1, PIECES = 2, ROWS = 3, CYLINDERS = 4;
 
-        /** In so many orders 5 SQUARES can be numbered. */
-        private static final int MOST_ORDERS = 120;
-
         private final int[] right = new int[MOST_SQUARES];
         private final int[] up = new int[MOST_SQUARES];
         private final int[] left = new int[MOST_SQUARES];
@@ -607,6 +604,7 @@ public final class Billiardry {
         private final int[] spare = new int[MOST_SQUARES];
         private final int[] order = new int[MOST_SQUARES];
         private final int[] number = new int[MOST_SQUARES];
+        private int numbered = 0;
         private int squares = 1;
 
         int squares() {
@@ -688,7 +686,7 @@ public final class Billiardry {
         }
 
         private int roundCorner(int square) {
-            return downOf(leftOf(upOf(rightOf(square))));
+            return at(down, at(left, at(up, at(right, square))));
         }
 
         int sizeOf(int square, int what) {
@@ -747,50 +745,61 @@ public final class Billiardry {
             return true;
         }
 
+        /**
+         * Once a numbering has begun in some SQUARE, its digits are least if each SQUARE that is new
+         * in them gets the next number, so that the rest of its PIECE follows. PIECES of unlike
+         * digits differ before the shorter one ends, so that each next one can be chosen by itself.
+         */
         int leastCode() {
-            for (int place = 0; place < squares; place++) {
-                put(order, place, place);
-            }
-            int least = codeInOrder();
-            for (int tried = 1; tried < MOST_ORDERS && goToNextOrder(); tried++) {
-                least = Math.min(least, codeInOrder());
-            }
-            return least;
-        }
-
-        private int codeInOrder() {
-            for (int place = 0; place < squares; place++) {
-                put(number, at(order, place), place);
-            }
             int code = 0;
-            for (int place = 0; place < squares; place++) {
-                int square = at(order, place);
-                code = code * MOST_SQUARES + at(number, rightOf(square));
-                code = code * MOST_SQUARES + at(number, upOf(square));
+            numbered = 0;
+            for (int piece = 0; piece < squares && Integer.bitCount(numbered) < squares; piece++) {
+                code += numberFrom(leastBeginning());
             }
             return code;
         }
 
-        /** The orders come as words do in a dictionary; false behind the last one. */
-        private boolean goToNextOrder() {
-            int rise = squares - 2;
-            while (rise >= 0 && at(order, rise) > at(order, rise + 1)) {
-                rise--;
+        private int leastBeginning() {
+            int kept = numbered;
+            int beginning = 0;
+            int least = Integer.MAX_VALUE;
+            for (int square = 0; square < squares; square++) {
+                if ((kept >> square & 1) == 0) {
+                    int digits = numberFrom(square);
+                    if (digits < least) {
+                        least = digits;
+                        beginning = square;
+                    }
+                    numbered = kept;
+                }
             }
-            if (rise < 0) {
-                return false;
+            return beginning;
+        }
+
+        /** Numbers a PIECE; returns its digits at their places in the CODE, all others 0. */
+        private int numberFrom(int beginning) {
+            int digits = 0;
+            int first = Integer.bitCount(numbered);
+            numberNext(beginning);
+            for (int place = first; place < squares; place++) {
+                digits = digits * MOST_SQUARES * MOST_SQUARES;
+                if (place < Integer.bitCount(numbered)) {
+                    int square = at(order, place);
+                    numberNext(rightOf(square));
+                    numberNext(upOf(square));
+                    digits += MOST_SQUARES * at(number, rightOf(square)) + at(number, upOf(square));
+                }
             }
-            int higher = squares - 1;
-            while (higher > rise + 1 && at(order, higher) < at(order, rise)) {
-                higher--;
+            return digits;
+        }
+
+        private void numberNext(int square) {
+            if ((numbered >> square & 1) == 0) {
+                int next = Integer.bitCount(numbered);
+                put(order, next, square);
+                put(number, square, next);
+                numbered |= 1 << square;
             }
-            exchangeIn(order, rise, higher);
-            int last = squares - 1;
-            for (int first = rise + 1; first < last; first++) {
-                exchangeIn(order, first, last);
-                last--;
-            }
-            return true;
         }
     }
 

@@ -8,7 +8,7 @@ import java.util.Map;
 
 /** Long runs of calls, always the same ones, on a Billiardry and on the Oracle: all answers must agree. */
 public final class RandomRunsTest {
-    private static final int RUNS = 700;
+    private static final int RUNS = 200;
     private static final int CALLS = 512;
 
     /** Behind the name of a call stand its arguments' kinds. */
