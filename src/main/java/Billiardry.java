@@ -595,6 +595,8 @@ public final class Billiardry {
 
     /** The SQUARES and what they are glued to. Sets of SQUARES are held as the bits of a number. */
     private static final class Surface {
+        /** 5 to the power of 10: no CODE has more than ten digits of 5. */
+        private static final int ABOVE_ALL_CODES = 9765625;
         static final int CONES = 1, PIECES = 2, ROWS = 3, CYLINDERS = 4;
 
         private final int[] right = new int[MOST_SQUARES];
@@ -762,7 +764,7 @@ public final class Billiardry {
         private int leastBeginning() {
             int kept = numbered;
             int beginning = 0;
-            int least = Integer.MAX_VALUE;
+            int least = ABOVE_ALL_CODES;
             for (int square = 0; square < squares; square++) {
                 if ((kept >> square & 1) == 0) {
                     int digits = numberFrom(square);

@@ -1,13 +1,32 @@
 /** Counts and prints the answers that are not the ones that are due. */
 final class Check {
+    private static final long LONGEST_RUN = 600_000L;
+
     private static int asked = 0;
     private static int wrong = 0;
+    private static String about = "";
+
+    /** A call that does not end must not keep the tests from ending. */
+    static {
+        Thread watch = new Thread(Check::endTheEndless);
+        watch.setDaemon(true);
+        watch.start();
+    }
 
     interface Call {
         void run();
     }
 
     private Check() {
+    }
+
+    /** Stands before all that is told from now on. */
+    static void about(String text) {
+        about = text;
+    }
+
+    static int asked() {
+        return asked;
     }
 
     static void same(String what, long got, long due) {
@@ -44,7 +63,8 @@ final class Check {
         thrown(what, call, IllegalStateException.class);
     }
 
-    private static void thrown(String what, Call call, Class<?> due) {
+    /** The exception is to be the one of the document itself, none of a class below it. */
+    static void thrown(String what, Call call, Class<?> due) {
         asked++;
         Class<?> got = null;
         try {
@@ -57,11 +77,26 @@ final class Check {
         }
     }
 
+    static void wrong(String what) {
+        asked++;
+        tell(what);
+    }
+
     private static void tell(String text) {
         wrong++;
         if (wrong <= 50) {
-            System.out.println(text);
+            System.out.println(about + text);
         }
+    }
+
+    private static void endTheEndless() {
+        try {
+            Thread.sleep(LONGEST_RUN);
+        } catch (InterruptedException e) {
+            return;
+        }
+        System.out.println(about + "does not end");
+        Runtime.getRuntime().halt(1);
     }
 
     static void end(String name) {

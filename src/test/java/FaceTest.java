@@ -53,11 +53,12 @@ public final class FaceTest {
         "int apart() ",
     };
 
-    /** Words that LANGUAGE.md leaves out, or that the class can do without. */
+    /** Words that LANGUAGE.md leaves out, wherever they stand in the code. */
     private static final String[] WORDS = {
-        "import ", "package ", "catch", "finally", "synchronized", "assert ", "->", "::", "static {",
-        "native", "volatile", "transient", "Object", "Exact(", "currentTimeMillis", "nanoTime", "Random",
-        "Thread", "System.", "double", "NaN", "hashCode", "equals",
+        "package ", "finally", "synchronized", "assert ", "::", "static {", "Exact(", "getMessage", "NaN",
+        "currentTimeMillis", "nanoTime", "Random", "Thread", "Throwable", "catch (Exception", "System.out",
+        "NullPointerException", "ClassCastException", "NegativeArraySizeException", "ArrayStoreException",
+        "ArrayIndexOutOfBoundsException", "StringIndexOutOfBoundsException", "StackOverflowError",
     };
 
     private FaceTest() {
@@ -75,19 +76,26 @@ public final class FaceTest {
         Set<String> got = new TreeSet<>();
         Set<String> publicNames = new TreeSet<>();
         for (Method method : Billiardry.class.getDeclaredMethods()) {
-            if (!Modifier.isPrivate(method.getModifiers())) {
+            int is = method.getModifiers();
+            if (!Modifier.isPrivate(is) && !method.isSynthetic()) {
                 got.add(method.getReturnType().getName() + " " + method.getName()
                     + "(" + names(method.getParameterTypes()) + ") " + names(method.getExceptionTypes()));
-                Check.same(method.getName() + " is public and nothing else", method.getModifiers(), Modifier.PUBLIC);
+                boolean isOfObjects = Modifier.isPublic(is) && !Modifier.isStatic(is);
+                Check.same(method.getName() + " is public, and not static", isOfObjects, true);
                 publicNames.add(method.getName());
             }
         }
         Check.sameText("the face", got.toString(), new TreeSet<>(Arrays.asList(FACE)).toString());
+        noPrivateMethodBears(publicNames, Billiardry.class);
         for (Class<?> inside : Billiardry.class.getDeclaredClasses()) {
-            for (Method method : inside.getDeclaredMethods()) {
-                boolean isTwice = Modifier.isPrivate(method.getModifiers()) && publicNames.contains(method.getName());
-                Check.same("private " + method.getName() + " bears a public name", isTwice, false);
-            }
+            noPrivateMethodBears(publicNames, inside);
+        }
+    }
+
+    private static void noPrivateMethodBears(Set<String> publicNames, Class<?> in) {
+        for (Method method : in.getDeclaredMethods()) {
+            boolean bears = Modifier.isPrivate(method.getModifiers()) && publicNames.contains(method.getName());
+            Check.same("the private " + method.getName() + " bears a public name", bears, false);
         }
     }
 
@@ -100,35 +108,40 @@ public final class FaceTest {
         Check.same("the constructor has no arguments", constructors[0].getParameterCount(), 0);
         String[] sides = {"WEST", "SOUTH", "EAST", "NORTH"};
         for (int side = 0; side < 4; side++) {
-            Check.same(sides[side], Billiardry.class.getField(sides[side]).getInt(null), side);
+            Field field = Billiardry.class.getField(sides[side]);
+            Check.same(sides[side], field.getInt(null), side);
+            Check.sameText(sides[side] + " is an int", field.getType().getName(), "int");
+            Check.same(sides[side] + " is final", Modifier.isFinal(field.getModifiers()), true);
         }
         Check.same("public fields", Billiardry.class.getFields().length, 4);
-        for (Field field : Billiardry.class.getDeclaredFields()) {
-            int is = field.getModifiers();
-            Check.same(field.getName() + " is public or private", Modifier.isPublic(is) || Modifier.isPrivate(is), true);
-            Check.same(field.getName() + " is final", Modifier.isFinal(is), true);
-        }
+        fields(Billiardry.class);
         for (Class<?> inside : Billiardry.class.getDeclaredClasses()) {
             int is = inside.getModifiers();
-            Check.same(inside.getName() + " is static and private", Modifier.isStatic(is) && Modifier.isPrivate(is), true);
+            Check.same(inside.getName() + " is seen", Modifier.isPublic(is) || Modifier.isProtected(is), false);
+            fields(inside);
+        }
+    }
+
+    private static void fields(Class<?> of) {
+        for (Field field : of.getDeclaredFields()) {
+            int is = field.getModifiers();
+            boolean isState = Modifier.isStatic(is) && !Modifier.isFinal(is);
+            Check.same(field.getName() + " is static and not final", isState, false);
+            if (of == Billiardry.class) {
+                boolean isSeen = !Modifier.isPublic(is) && !Modifier.isPrivate(is);
+                Check.same(field.getName() + " is neither public nor private", isSeen, false);
+            }
         }
     }
 
     private static void language() throws IOException {
         String text = Files.readString(Path.of("src/main/java/Billiardry.java"), StandardCharsets.ISO_8859_1);
-        for (int k = 0; k < text.length(); k++) {
-            if (text.charAt(k) > 126 || (text.charAt(k) < 32 && text.charAt(k) != '\n')) {
-                Check.same("sign " + k + " of the program", text.charAt(k), ' ');
-            }
+        String code = text.replaceAll("(?s)/\\*.*?\\*/", " ").replaceAll("//[^\n]*", " ");
+        for (int k = 0; k < code.length(); k++) {
+            Check.same("sign " + k + " is of 1 to 127", code.charAt(k) >= 1 && code.charAt(k) <= 127, true);
         }
         for (String word : WORDS) {
-            Check.same("the program has '" + word + "'", text.contains(word), false);
-        }
-        int length = 0;
-        for (String line : text.split("\n")) {
-            length = line.isEmpty() ? 0 : length + 1;
-            Check.same("lines without an empty one: " + line, length <= 60, true);
-            Check.same("a short line: " + line, line.length() <= 120, true);
+            Check.same("the program has '" + word + "'", code.contains(word), false);
         }
     }
 

@@ -3,23 +3,6 @@ public final class LampsTest {
     private LampsTest() {
     }
 
-    /** A ROOM with these BLOCKS, told as x and y by turns. */
-    private static Billiardry blocks(int... cells) {
-        Billiardry room = new Billiardry();
-        for (int k = 0; k < cells.length; k += 2) {
-            room.block(cells[k], cells[k + 1], true);
-        }
-        return room;
-    }
-
-    private static Billiardry noFloor() {
-        Billiardry room = new Billiardry();
-        for (int cell = 0; cell < 64; cell++) {
-            room.block(cell % 8, cell / 8, true);
-        }
-        return room;
-    }
-
     private static void sight(String what, Billiardry room, int x, int y, int otherX, int otherY, boolean due) {
         Check.same(what + ": sees", room.sees(x, y, otherX, otherY), due);
         Check.same(what + ": sees, the other way", room.sees(otherX, otherY, x, y), due);
@@ -28,7 +11,7 @@ public final class LampsTest {
     }
 
     private static void promise11Lamp() {
-        Billiardry room = blocks(2, 2);
+        Billiardry room = Make.blocks(2, 2);
         int[][] cells = {{0, 0}, {7, 7}, {2, 2}, {0, 0}, {7, 0}, {0, 7}};
         for (int number = 0; number < 6; number++) {
             Check.same("lamp " + number, room.lamp(cells[number][0], cells[number][1]), number);
@@ -55,30 +38,30 @@ public final class LampsTest {
     }
 
     private static void promises12And13() {
-        sight("across a corner, right", blocks(1, 0), 0, 0, 1, 1, false);
-        sight("across a corner, up", blocks(0, 1), 0, 0, 1, 1, false);
-        sight("across a corner, both", blocks(0, 1, 1, 0), 0, 0, 1, 1, false);
-        sight("the other diagonal", blocks(3, 3), 3, 4, 4, 3, false);
-        sight("a diagonal beside a BLOCK", blocks(0, 2, 2, 0), 0, 0, 7, 7, true);
-        sight("a long diagonal's corner", blocks(4, 3), 0, 0, 7, 7, false);
-        sight("beside the line", blocks(0, 1, 2, 0), 0, 0, 2, 1, true);
-        sight("on the line, right", blocks(1, 0), 0, 0, 2, 1, false);
-        sight("on the line, up", blocks(1, 1), 0, 0, 2, 1, false);
-        sight("a corner on a third, right", blocks(2, 0), 0, 0, 3, 1, false);
-        sight("a corner on a third, up", blocks(1, 1), 0, 0, 3, 1, false);
-        sight("beside a third", blocks(3, 0, 0, 1), 0, 0, 3, 1, true);
-        sight("a corner on a third, steep", blocks(0, 2), 0, 0, 1, 3, false);
-        sight("along a row", blocks(0, 3, 4, 2, 4, 4, 7, 3), 1, 3, 6, 3, true);
-        sight("along a row with a BLOCK", blocks(4, 3), 1, 3, 6, 3, false);
-        sight("along a column", blocks(3, 0, 2, 4, 4, 4, 3, 7), 3, 1, 3, 6, true);
-        sight("along a column with a BLOCK", blocks(3, 4), 3, 1, 3, 6, false);
-        sight("behind the end", blocks(7, 7), 0, 0, 6, 6, true);
-        sight("itself", blocks(3, 4, 5, 4, 4, 3, 4, 5), 4, 4, 4, 4, true);
-        sight("a BLOCK itself", blocks(4, 4), 4, 4, 4, 4, false);
-        sight("a BLOCK at the end", blocks(0, 0), 0, 0, 1, 0, false);
-        sight("neighbours", blocks(2, 1), 0, 0, 1, 0, true);
-        Check.same("no FLOOR: sees", noFloor().sees(0, 0, 7, 7), false);
-        Check.same("no FLOOR: seesAnew", noFloor().seesAnew(0, 0, 7, 7), false);
+        sight("across a corner, right", Make.blocks(1, 0), 0, 0, 1, 1, false);
+        sight("across a corner, up", Make.blocks(0, 1), 0, 0, 1, 1, false);
+        sight("across a corner, both", Make.blocks(0, 1, 1, 0), 0, 0, 1, 1, false);
+        sight("the other diagonal", Make.blocks(3, 3), 3, 4, 4, 3, false);
+        sight("a diagonal beside a BLOCK", Make.blocks(0, 2, 2, 0), 0, 0, 7, 7, true);
+        sight("a long diagonal's corner", Make.blocks(4, 3), 0, 0, 7, 7, false);
+        sight("beside the line", Make.blocks(0, 1, 2, 0), 0, 0, 2, 1, true);
+        sight("on the line, right", Make.blocks(1, 0), 0, 0, 2, 1, false);
+        sight("on the line, up", Make.blocks(1, 1), 0, 0, 2, 1, false);
+        sight("a corner on a third, right", Make.blocks(2, 0), 0, 0, 3, 1, false);
+        sight("a corner on a third, up", Make.blocks(1, 1), 0, 0, 3, 1, false);
+        sight("beside a third", Make.blocks(3, 0, 0, 1), 0, 0, 3, 1, true);
+        sight("a corner on a third, steep", Make.blocks(0, 2), 0, 0, 1, 3, false);
+        sight("along a row", Make.blocks(0, 3, 4, 2, 4, 4, 7, 3), 1, 3, 6, 3, true);
+        sight("along a row with a BLOCK", Make.blocks(4, 3), 1, 3, 6, 3, false);
+        sight("along a column", Make.blocks(3, 0, 2, 4, 4, 4, 3, 7), 3, 1, 3, 6, true);
+        sight("along a column with a BLOCK", Make.blocks(3, 4), 3, 1, 3, 6, false);
+        sight("behind the end", Make.blocks(7, 7), 0, 0, 6, 6, true);
+        sight("itself", Make.blocks(3, 4, 5, 4, 4, 3, 4, 5), 4, 4, 4, 4, true);
+        sight("a BLOCK itself", Make.blocks(4, 4), 4, 4, 4, 4, false);
+        sight("a BLOCK at the end", Make.blocks(0, 0), 0, 0, 1, 0, false);
+        sight("neighbours", Make.blocks(2, 1), 0, 0, 1, 0, true);
+        Check.same("no FLOOR: sees", Make.floor().sees(0, 0, 7, 7), false);
+        Check.same("no FLOOR: seesAnew", Make.floor().seesAnew(0, 0, 7, 7), false);
     }
 
     private static void wrongSights() {
@@ -121,11 +104,11 @@ public final class LampsTest {
         Check.sameFloat("a lamp on either side: share", room.share(), 1.0f);
         room.lamp(7, 0);
         Check.same("two in one CELL: lit", room.lit(), 56);
-        Billiardry corner = blocks(3, 3, 4, 3);
+        Billiardry corner = Make.blocks(3, 3, 4, 3);
         corner.lamp(0, 0);
         Check.same("two BLOCKS: lit", corner.lit(), 46);
         Check.sameFloat("two BLOCKS: share", corner.share(), 46.0f / 62.0f);
-        Billiardry none = noFloor();
+        Billiardry none = Make.floor();
         none.lamp(0, 0);
         Check.same("no FLOOR: lit", none.lit(), 0);
         Check.sameFloat("no FLOOR: share", none.share(), 0.0f);
@@ -134,14 +117,14 @@ public final class LampsTest {
         Check.sameFloat("dark FLOOR: share", none.share(), 0.0f);
         none.block(0, 0, false);
         Check.sameFloat("half of the FLOOR: share", none.share(), 0.5f);
-        Billiardry single = noFloor();
+        Billiardry single = Make.floor();
         single.block(2, 5, false);
         single.lamp(5, 2);
         Check.same("x and y are not exchanged: lit", single.lit(), 0);
         single.lamp(2, 5);
         Check.same("one CELL of FLOOR: lit", single.lit(), 1);
         Check.sameFloat("one CELL of FLOOR: share", single.share(), 1.0f);
-        Billiardry last = noFloor();
+        Billiardry last = Make.floor();
         lampsAt(last, 5);
         last.lamp(6, 6);
         last.block(6, 6, false);

@@ -6,18 +6,6 @@ public final class RoomTest {
     private RoomTest() {
     }
 
-    /** A ROOM whose FLOOR is these CELLS alone, told as x and y by turns. */
-    private static Billiardry floor(int... cells) {
-        Billiardry room = new Billiardry();
-        for (int cell = 0; cell < 64; cell++) {
-            room.block(cell % 8, cell / 8, true);
-        }
-        for (int k = 0; k < cells.length; k += 2) {
-            room.block(cells[k], cells[k + 1], false);
-        }
-        return room;
-    }
-
     private static int told(int x, int y, int side, boolean isUp) {
         return x + 8 * y + 64 * side + (isUp ? UP : 0);
     }
@@ -60,7 +48,7 @@ public final class RoomTest {
     }
 
     private static void promises3To6InOneCell() {
-        Billiardry room = floor(7, 7);
+        Billiardry room = Make.floor(7, 7);
         for (int side = WEST; side <= NORTH; side++) {
             for (int up = 0; up < 2; up++) {
                 Check.same("one CELL: period", room.period(7, 7, side, up == 1), 4);
@@ -85,7 +73,7 @@ public final class RoomTest {
 
     /** By hand: from WEST of 0, 0 up one comes through eight STATES, and bounces at six of their STEPS. */
     private static void promises3To8InTwoCells() {
-        Billiardry room = floor(0, 0, 1, 0);
+        Billiardry room = Make.floor(0, 0, 1, 0);
         int[] due = {told(0, 0, WEST, true), told(0, 0, NORTH, true), told(1, 0, WEST, false),
             told(1, 0, SOUTH, true), told(1, 0, EAST, true), told(1, 0, NORTH, false),
             told(0, 0, EAST, false), told(0, 0, SOUTH, false)};
@@ -110,7 +98,7 @@ public final class RoomTest {
 
     /** By hand, around a bend: 2, 5 with 2, 6 to its NORTH and 3, 5 to its EAST. */
     private static void promises3To8InABend() {
-        Billiardry room = floor(2, 5, 2, 6, 3, 5);
+        Billiardry room = Make.floor(2, 5, 2, 6, 3, 5);
         int[] due = {told(2, 5, WEST, true), told(2, 6, SOUTH, true), told(2, 6, EAST, true),
             told(2, 6, NORTH, false), told(2, 6, WEST, false), told(2, 5, NORTH, true),
             told(3, 5, WEST, false), told(3, 5, SOUTH, true), told(3, 5, EAST, true),
@@ -134,7 +122,7 @@ public final class RoomTest {
         Check.same("empty: touched", room.touched(0, 0, WEST, true), 22);
         Check.same("empty: touched on the diagonals", room.touched(3, 3, NORTH, true), 22);
         Check.sameFloat("empty: mean", room.mean(), 32.0f);
-        for (int state = 0; state < 512; state += 3) {
+        for (int state = 0; state < 512; state += 5) {
             int x = state % 8;
             int y = state / 8 % 8;
             int side = state / 64 % 4;
@@ -145,10 +133,10 @@ public final class RoomTest {
     }
 
     private static void promises9And10() {
-        Billiardry none = floor();
+        Billiardry none = Make.floor();
         Check.same("no FLOOR: paths", none.paths(), 0);
         Check.sameFloat("no FLOOR: mean", none.mean(), 0.0f);
-        Billiardry apart = floor(0, 0, 2, 2, 7, 7, 6, 7);
+        Billiardry apart = Make.floor(0, 0, 2, 2, 7, 7, 6, 7);
         Check.same("two single CELLS and a pair: paths", apart.paths(), 6);
         Check.sameFloat("two single CELLS and a pair: mean", apart.mean(), 32.0f / 6.0f);
         Billiardry room = new Billiardry();

@@ -1,5 +1,3 @@
-import java.util.ArrayList;
-import java.util.List;
 import java.util.TreeMap;
 
 /** Promises 16 to 24: the SURFACE. */
@@ -7,24 +5,6 @@ public final class SurfaceTest {
     private static final int[] MOST_CODES = {0, 1, 4, 11, 43, 161};
 
     private SurfaceTest() {
-    }
-
-    /** Gluings, each as two SQUARES; the first RIGHTS, behind a -1 UPS. */
-    private static Billiardry glued(int squares, int... pairs) {
-        Billiardry surface = new Billiardry();
-        surface.surface(squares);
-        boolean isUp = false;
-        int k = 0;
-        while (k < pairs.length) {
-            if (pairs[k] < 0) {
-                isUp = true;
-                k++;
-            } else {
-                surface.glue(pairs[k], pairs[k + 1], isUp);
-                k += 2;
-            }
-        }
-        return surface;
     }
 
     private static void told(String name, Billiardry surface, int square, int... due) {
@@ -83,7 +63,7 @@ public final class SurfaceTest {
 
     /** RIGHT 0 to 1 to 2 to 0, UP 0 to 3 to 0: by hand. */
     private static void promises18And19() {
-        Billiardry surface = glued(4, 0, 1, 1, 2, -1, 0, 3);
+        Billiardry surface = Make.glued(4, 0, 1, 1, 2, -1, 0, 3);
         told("before", surface, 0, 1, 3, 2, 3);
         told("before", surface, 1, 2, 1, 0, 1);
         int sheared = surface.shear();
@@ -98,12 +78,12 @@ public final class SurfaceTest {
         told("turned", surface, 1, 2, 0, 0, 2);
         told("turned", surface, 2, 3, 1, 1, 0);
         told("turned", surface, 3, 0, 3, 2, 3);
-        Billiardry bend = glued(3, 0, 1, -1, 0, 2);
+        Billiardry bend = Make.glued(3, 0, 1, -1, 0, 2);
         Check.same("shear", bend.shear(), 930);
         Check.same("turn", bend.turn(), 3426);
         Check.same("one SQUARE: shear", new Billiardry().shear(), 0);
         Check.same("one SQUARE: turn", new Billiardry().turn(), 0);
-        Billiardry four = glued(5, 0, 1, 1, 2, 2, 3, -1, 0, 4);
+        Billiardry four = Make.glued(5, 0, 1, 1, 2, 2, 3, -1, 0, 4);
         int before = four.code();
         for (int k = 0; k < 3; k++) {
             four.turn();
@@ -113,21 +93,21 @@ public final class SurfaceTest {
     }
 
     private static void promises20And21() {
-        Billiardry bend = glued(3, 0, 1, -1, 0, 2);
+        Billiardry bend = Make.glued(3, 0, 1, -1, 0, 2);
         told("the bend", bend, 0, 1, 2, 1, 2, 3, 3, 2);
         told("the bend", bend, 1, 0, 1, 0, 1, 3, 3, 2);
         told("the bend", bend, 2, 2, 0, 2, 0, 3, 3, 1);
         counted("the bend", bend, 3, 1, 1, 2, 2);
-        Billiardry apart = glued(5, 1, 2, 2, 4);
+        Billiardry apart = Make.glued(5, 1, 2, 2, 4);
         told("a ROW and two more PIECES", apart, 0, 0, 0, 0, 0, 1, 1, 1);
         told("a ROW and two more PIECES", apart, 1, 2, 1, 4, 1, 1, 3, 3);
         told("a ROW and two more PIECES", apart, 4, 1, 4, 2, 4, 1, 3, 3);
         counted("a ROW and two more PIECES", apart, 5, 5, 3, 3, 3);
-        Billiardry tower = glued(4, -1, 0, 1, 1, 2, 2, 3);
+        Billiardry tower = Make.glued(4, -1, 0, 1, 1, 2, 2, 3);
         counted("a tower of flat ROWS", tower, 4, 4, 1, 4, 1);
-        Billiardry flat = glued(4, 0, 1, 2, 3, -1, 0, 2, 1, 3);
+        Billiardry flat = Make.glued(4, 0, 1, 2, 3, -1, 0, 2, 1, 3);
         counted("two flat ROWS", flat, 4, 4, 1, 2, 1);
-        counted("five new ones", glued(5), 5, 5, 5, 5, 5);
+        counted("five new ones", Make.glued(5), 5, 5, 5, 5, 5);
         counted("one", new Billiardry(), 1, 1, 1, 1, 1);
         int[] wrong = {-1, 7, Integer.MIN_VALUE, Integer.MAX_VALUE};
         for (int what : wrong) {
@@ -144,13 +124,13 @@ public final class SurfaceTest {
 
     private static void promise22Genus() {
         Check.same("one SQUARE", new Billiardry().genus(), 1);
-        Check.same("the bend", glued(3, 0, 1, -1, 0, 2).genus(), 2);
-        Check.same("five in a ROW", glued(5, 0, 1, 1, 2, 2, 3, 3, 4).genus(), 1);
-        Billiardry three = glued(5, 0, 1, 1, 2, 2, 3, 3, 4, -1, 3, 0, 1, 0);
+        Check.same("the bend", Make.glued(3, 0, 1, -1, 0, 2).genus(), 2);
+        Check.same("five in a ROW", Make.glued(5, 0, 1, 1, 2, 2, 3, 3, 4).genus(), 1);
+        Billiardry three = Make.glued(5, 0, 1, 1, 2, 2, 3, 3, 4, -1, 3, 0, 1, 0);
         told("one CONE of five", three, 4, 0, 4, 3, 4, 5, 5, 5);
         counted("one CONE of five", three, 5, 1, 1, 1, 1);
         Check.same("one CONE of five", three.genus(), 3);
-        Billiardry apart = glued(2);
+        Billiardry apart = Make.glued(2);
         Check.standing("two PIECES", apart::genus);
         apart.glue(0, 1, true);
         Check.same("glued to one", apart.genus(), 1);
@@ -162,26 +142,26 @@ public final class SurfaceTest {
     private static void promises23And24() {
         Check.same("one SQUARE: code", new Billiardry().code(), 0);
         Check.same("one SQUARE: kin", new Billiardry().kin(), 1);
-        Check.same("two in a ROW: code", glued(2, 0, 1).code(), 126);
-        Check.same("two in a ROW: kin", glued(2, 0, 1).kin(), 3);
-        Check.same("three in a ROW: kin", glued(3, 0, 1, 1, 2).kin(), 4);
-        Check.same("four in a ROW: kin", glued(4, 0, 1, 1, 2, 2, 3).kin(), 6);
-        Check.same("five in a ROW: kin", glued(5, 0, 1, 1, 2, 2, 3, 3, 4).kin(), 6);
-        Check.same("the bend: code", glued(3, 0, 1, -1, 0, 2).code(), 882);
-        Check.same("the bend, numbered anew: code", glued(3, 2, 1, -1, 2, 0).code(), 882);
-        Check.same("the bend: kin", glued(3, 0, 1, -1, 0, 2).kin(), 3);
-        Check.same("the bend of four: kin", glued(4, 0, 1, 1, 2, -1, 0, 3).kin(), 9);
-        Check.same("the bend of five: kin", glued(5, 0, 1, 1, 2, 2, 3, -1, 0, 4).kin(), 18);
-        Check.same("the other bend of five: kin", glued(5, 0, 1, 1, 2, -1, 0, 3, 3, 4).kin(), 9);
-        Check.same("five apart: kin", glued(5).kin(), 1);
-        Billiardry again = glued(3, 0, 1, -1, 0, 2);
+        Check.same("two in a ROW: code", Make.glued(2, 0, 1).code(), 126);
+        Check.same("two in a ROW: kin", Make.glued(2, 0, 1).kin(), 3);
+        Check.same("three in a ROW: kin", Make.glued(3, 0, 1, 1, 2).kin(), 4);
+        Check.same("four in a ROW: kin", Make.glued(4, 0, 1, 1, 2, 2, 3).kin(), 6);
+        Check.same("five in a ROW: kin", Make.glued(5, 0, 1, 1, 2, 2, 3, 3, 4).kin(), 6);
+        Check.same("the bend: code", Make.glued(3, 0, 1, -1, 0, 2).code(), 882);
+        Check.same("the bend, numbered anew: code", Make.glued(3, 2, 1, -1, 2, 0).code(), 882);
+        Check.same("the bend: kin", Make.glued(3, 0, 1, -1, 0, 2).kin(), 3);
+        Check.same("the bend of four: kin", Make.glued(4, 0, 1, 1, 2, -1, 0, 3).kin(), 9);
+        Check.same("the bend of five: kin", Make.glued(5, 0, 1, 1, 2, 2, 3, -1, 0, 4).kin(), 18);
+        Check.same("the other bend of five: kin", Make.glued(5, 0, 1, 1, 2, -1, 0, 3, 3, 4).kin(), 9);
+        Check.same("five apart: kin", Make.glued(5).kin(), 1);
+        Billiardry again = Make.glued(3, 0, 1, -1, 0, 2);
         Check.same("the bend: kin, first", again.kin(), 3);
         Check.same("the bend: kin, again", again.kin(), 3);
         again.surface(2);
         Check.same("two apart behind the bend: kin", again.kin(), 1);
         again.glue(0, 1, true);
         Check.same("two in a column: kin", again.kin(), 3);
-        Check.same("five apart: code", glued(5).code(), fiveApart());
+        Check.same("five apart: code", Make.glued(5).code(), fiveApart());
     }
 
     /** Each SQUARE is its own RIGHT and UP, in whatever order they are numbered. */
@@ -191,29 +171,6 @@ public final class SurfaceTest {
             code = code * 25 + square * 6;
         }
         return code;
-    }
-
-    private static List<int[]> orders(int many) {
-        List<int[]> orders = new ArrayList<>();
-        addOrders(new int[many], 0, orders);
-        return orders;
-    }
-
-    private static void addOrders(int[] begun, int place, List<int[]> orders) {
-        if (place == begun.length) {
-            orders.add(begun.clone());
-            return;
-        }
-        for (int k = 0; k < begun.length; k++) {
-            boolean isFree = true;
-            for (int before = 0; before < place; before++) {
-                isFree &= begun[before] != k;
-            }
-            if (isFree) {
-                begun[place] = k;
-                addOrders(begun, place + 1, orders);
-            }
-        }
     }
 
     private static void glueLike(Billiardry asked, Oracle oracle, int[] order, int what) {
@@ -246,8 +203,8 @@ public final class SurfaceTest {
     /** Every SURFACE there is. */
     private static void allSurfaces(int many) {
         TreeMap<Integer, Integer> kin = new TreeMap<>();
-        for (int[] right : orders(many)) {
-            for (int[] up : orders(many)) {
+        for (int[] right : Make.orders(many)) {
+            for (int[] up : Make.orders(many)) {
                 Billiardry asked = new Billiardry();
                 Oracle oracle = new Oracle();
                 asked.surface(many);
