@@ -497,8 +497,11 @@ public final class SurfaceEdgesTest {
         counted(FIVE_IN_A_ROW, 3, 1);
     }
 
-    /** One SQUARE of the ROW with an ANGLE that is not 1 is enough. */
+    /** One SQUARE of the ROW with an ANGLE that is not 1 is enough to keep it apart. */
     private static void forEachSquareOfARow() {
+        counted("1203304124", 4, 2);
+        counted("1203344021", 4, 2);
+        counted("0012314324", 4, 3);
         counted("01203213", 4, 2);
         counted("0120334412", 4, 2);
         counted("1102334420", 4, 2);
@@ -512,6 +515,9 @@ public final class SurfaceEdgesTest {
         counted("12033021", 4, 1);
         counted(MOST_KIN, 4, 3);
         counted("0112234034", 4, 2);
+        counted("0123144032", 4, 2);
+        counted("01123023", 4, 2);
+        counted("0012234134", 4, 3);
     }
 
     private static void joinedWithItself() {
